@@ -99,6 +99,7 @@ public final class BoardTest {
         x.paint(1, 2);
         x.see(1, 1, false);
         x.image();
+        Check.due("ways(2) of the board that will be gone", x.ways(2), 6);
         Check.type(x, "2;fff;");
         Check.due("board() of no board", x.board(), SumColours.STATE);
         Check.due("a refused board() leaves changes", x.count(5), 1);
@@ -115,5 +116,6 @@ public final class BoardTest {
         Check.due("a number that is gone", x.number(5, 0), SumColours.UNKNOWN);
         Check.due("a colour that is gone", x.paint(1, 2), SumColours.OUTSIDE);
         Check.due("ways(0) of another board", x.ways(0), 4);
+        Check.due("ways(2) of another board", x.ways(2), 4);
     }
 }

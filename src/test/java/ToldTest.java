@@ -3,6 +3,7 @@ public final class ToldTest {
     public static void main(String[] args) {
         imageAndRestore();
         theLatestImage();
+        imageKeepsWhatIsSeen();
         count();
         digest();
         Check.end("ToldTest");
@@ -57,6 +58,28 @@ public final class ToldTest {
         Check.due("restore(), another board since", x.restore(), SumColours.STATE);
         Check.due("image() of the other", x.image(), 0);
         Check.due("restore() of the other", x.restore(), 0);
+    }
+
+    private static void imageKeepsWhatIsSeen() {
+        SumColours x = Check.board("2;nnnn;....");
+        x.see(1, 0, true);
+        x.see(2, 1, false);
+        x.image();
+        x.forget();
+        x.see(3, 2, false);
+        x.see(4, 0, true);
+        x.see(4, 1, true);
+        Check.due("restore()", x.restore(), 0);
+        Check.due("count(6)", x.count(6), 2);
+        int[] sorts = {11, 22, 31, 31};
+        for (int number = 1; number <= 4; number++) {
+            Check.due("sorts of " + number, x.number(number, 3), sorts[number - 1]);
+        }
+        x.forget();
+        x.image();
+        x.see(1, 1, true);
+        x.restore();
+        Check.due("an image of nothing seen", x.count(6), 0);
     }
 
     private static void count() {

@@ -45,6 +45,17 @@ public final class WouldBeTest {
         Check.due("bad at 2", Check.board("2;nnnn;aa..").ways(2), 1);
         Check.due("what is above does not count", Check.board("2;nnnn;a..b").ways(2), 3);
         Check.due("none bare", Check.board("2;nnnn;abba").ways(2), 4);
+        SumColours x = Check.board("2;nnnn;....");
+        Check.due("at first", x.ways(2), 4);
+        x.paint(1, 1);
+        x.paint(4, 0);
+        Check.due("painted", x.ways(2), 3);
+        x.paint(2, 1);
+        Check.due("painted again", x.ways(2), 1);
+        x.be(2, 2);
+        Check.due("2 is free: 3 as 0", x.ways(2), 4);
+        x.wipe(2);
+        Check.due("2 is bare", x.ways(2), 4);
     }
 
     private static void mend() {
