@@ -2,6 +2,7 @@
 final class Check {
     private static int wrong = 0;
     private static int held = 0;
+    private static String heading = "";
 
     private Check() {
     }
@@ -10,8 +11,17 @@ final class Check {
         held++;
         if (got != want) {
             wrong++;
-            System.out.println(call + " answered " + got + ", due is " + want);
+            System.out.println(heading + call + " answered " + got + ", due is " + want);
         }
+    }
+
+    /** What stands ahead of each answer that is not as due, until another heading comes. */
+    static void head(String words) {
+        heading = words;
+    }
+
+    static int held() {
+        return held;
     }
 
     /** Ends the test: with exit code 1, if an answer was not as due or none was held. */
@@ -26,6 +36,13 @@ final class Check {
         for (int place = 0; place < text.length(); place++) {
             x.letter(text.charAt(place));
         }
+    }
+
+    /** What board() answers to a text on a new object. */
+    static int readingOf(String text) {
+        SumColours x = new SumColours();
+        type(x, text);
+        return x.board();
     }
 
     static SumColours board(String text) {
