@@ -54,6 +54,7 @@ public final class EdgesOfRefusalsTest {
         return x;
     }
 
+    /** Beyond the 512 calls that are promised, as no other run gets to 999 changes. */
     private static SumColours fullOfChanges() {
         SumColours x = inUse();
         for (int change = x.count(5); change < 999; change++) {

@@ -53,7 +53,7 @@ public final class EdgesOfTheBoardTest {
 
     // ---- what it is
 
-    /** Eleven letters, board(), 499 paints, and digest() as the 512th call: each as the model answers. */
+    /** Eleven letters, board(), 498 paints, count(5), and digest() as the 512th call: each as the model answers. */
     private static SumColours usedUp() {
         SumColours x = new SumColours();
         Model model = new Model();
@@ -65,18 +65,19 @@ public final class EdgesOfTheBoardTest {
         }
         calls++;
         Check.due("call " + calls, x.board(), model.board());
-        while (calls < 511) {
+        while (calls < 510) {
             calls++;
             int number = 1 + calls % 4;
             int colour = calls / 4 % 3;
             Check.due("call " + calls, x.paint(number, colour), model.paint(number, colour));
         }
+        Check.due("call 511: changes", x.count(5), 498);
         Check.due("call 512", x.digest(), model.digest());
         return x;
     }
 
     private static void fiveHundredAndTwelveCalls() {
-        Check.due("changes of 512 calls", usedUp().count(5), 499);
+        usedUp();
         SumColours letters = new SumColours();
         for (int call = 1; call < 512; call++) {
             int had = call % 2 == 0 ? letters.blank() : letters.letter(32 + call % 95);
@@ -299,12 +300,13 @@ public final class EdgesOfTheBoardTest {
     }
 
     private static void codes() {
-        SumColours x = new SumColours();
         for (int code = -300; code <= 1000; code++) {
+            SumColours one = new SumColours();
             boolean is = code >= 32 && code <= 126;
-            Check.due("letter(" + code + ")", x.letter(code), is ? 1 : SumColours.OUTSIDE);
-            Check.due("blank() then", x.blank(), is ? 1 : 0);
+            Check.due("letter(" + code + ")", one.letter(code), is ? 1 : SumColours.OUTSIDE);
+            Check.due("blank() then", one.blank(), is ? 1 : 0);
         }
+        SumColours x = new SumColours();
         // codes that would be letters, if they were cut down to a char or a byte
         for (int code : new int[] {65536 + '2', 256 + '2', '2' - 65536, Integer.MIN_VALUE + '2'}) {
             Check.due("letter(" + code + ")", x.letter(code), SumColours.OUTSIDE);

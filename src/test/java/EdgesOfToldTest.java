@@ -342,7 +342,7 @@ public final class EdgesOfToldTest {
             .and(5, 3, 1, 1, 6, 0, 1, 0, 1);
         Check.due("digest()", x.digest(), all.wrapped());
         Check.due("digest() changes nothing", x.digest(), all.wrapped());
-        // 4 is 1 or 2, so that its odds of colour 0 are 0 of 1, those of the others 1 of 2
+        // 16 ways: 4 is 0 in none of them, 2 in all, 1 and 3 each in six
         Told odds = new Told()
             .and(2, -1, -1, 31, 0, 0, 3, 8)
             .and(2, 0, 0, 31, 0, 0, 1, 1)

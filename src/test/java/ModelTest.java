@@ -3,7 +3,9 @@ import java.util.Random;
 /** Runs of calls by a fixed seed: the class answers each as the plain model of the document does. */
 public final class ModelTest {
     private static final int RUNS = 240;
-    private static final int CALLS = 120;
+    private static final int STEPS = 120;
+    /** An object is promised for 512 calls; a step that types and reads a board makes some fifty of them. */
+    private static final int LAST_STEP_BY = 440;
     private static final int[] ODD = {-1, 0, 1, 11, 126, 127, Integer.MIN_VALUE, Integer.MAX_VALUE};
 
     private final Random random;
@@ -11,6 +13,7 @@ public final class ModelTest {
     private final Model model = new Model();
     private final int most;
     private final String kindsInPlay;
+    private int calls = 0;
 
     private ModelTest(int run) {
         random = new Random(run);
@@ -21,12 +24,18 @@ public final class ModelTest {
     public static void main(String[] args) {
         for (int run = 0; run < RUNS; run++) {
             ModelTest one = new ModelTest(run);
-            for (int call = 0; call < CALLS; call++) {
-                one.step("run " + run + ", call " + call + ": ");
+            for (int step = 0; step < STEPS && one.calls <= LAST_STEP_BY; step++) {
+                one.step("run " + run + ", step " + step + ": ");
             }
-            Check.due("run " + run + ": digest()", one.x.digest(), one.model.digest());
+            one.due("run " + run + ": digest()", one.x.digest(), one.model.digest());
+            Check.due("run " + run + " makes more calls than are promised", one.calls > 512 ? 1 : 0, 0);
         }
         Check.end("ModelTest");
+    }
+
+    private void due(String call, long got, long want) {
+        calls++;
+        Check.due(call, got, want);
     }
 
     private int any(int from, int to) {
@@ -58,11 +67,11 @@ public final class ModelTest {
     private void typeAndRead(String at) {
         String text = text();
         for (char letter : text.toCharArray()) {
-            Check.due(at + "letter of " + text, x.letter(letter), model.letter(letter));
-            Check.due(at + "fault() in " + text, x.fault(), model.fault());
+            due(at + "letter of " + text, x.letter(letter), model.letter(letter));
+            due(at + "fault() in " + text, x.fault(), model.fault());
         }
-        Check.due(at + "board() of " + text, x.board(), model.board());
-        if (random.nextInt(3) > 0) Check.due(at + "blank()", x.blank(), model.blank());
+        due(at + "board() of " + text, x.board(), model.board());
+        if (random.nextInt(3) > 0) due(at + "blank()", x.blank(), model.blank());
     }
 
     private void step(String at) {
@@ -73,29 +82,29 @@ public final class ModelTest {
         String args = "(" + a + ", " + b + ", " + c + ")";
         switch (random.nextInt(24)) {
             case 0: int code = any(30, 128);
-                Check.due(at + "letter " + code, x.letter(code), model.letter(code));
-                Check.due(at + "fault()", x.fault(), model.fault()); break;
-            case 1: case 2: case 3: Check.due(at + "number" + args, x.number(a, b), model.number(a, b)); break;
-            case 4: Check.due(at + "as" + args, x.as(a, b), model.as(a, b)); break;
+                due(at + "letter " + code, x.letter(code), model.letter(code));
+                due(at + "fault()", x.fault(), model.fault()); break;
+            case 1: case 2: case 3: due(at + "number" + args, x.number(a, b), model.number(a, b)); break;
+            case 4: due(at + "as" + args, x.as(a, b), model.as(a, b)); break;
             case 5: int way = any(0, Math.max(0, model.ways(0)));
-                Check.due(at + "way " + way + " " + args, x.way(way, a), model.way(way, a)); break;
-            case 6: case 7: case 8: Check.due(at + "paint" + args, x.paint(a, c), model.paint(a, c)); break;
-            case 9: case 10: Check.due(at + "wipe" + args, x.wipe(a), model.wipe(a)); break;
-            case 11: Check.due(at + "be" + args, x.be(a, b), model.be(a, b)); break;
-            case 12: case 13: Check.due(at + "ways" + args, x.ways(c), model.ways(c)); break;
-            case 14: Check.due(at + "mend()", x.mend(), model.mend()); break;
-            case 15: Check.due(at + "wins" + args, x.wins(c), model.wins(c)); break;
-            case 16: Check.due(at + "odds" + args, x.odds(a, c, b % 3), model.odds(a, c, b % 3)); break;
+                due(at + "way " + way + " " + args, x.way(way, a), model.way(way, a)); break;
+            case 6: case 7: case 8: due(at + "paint" + args, x.paint(a, c), model.paint(a, c)); break;
+            case 9: case 10: due(at + "wipe" + args, x.wipe(a), model.wipe(a)); break;
+            case 11: due(at + "be" + args, x.be(a, b), model.be(a, b)); break;
+            case 12: case 13: due(at + "ways" + args, x.ways(c), model.ways(c)); break;
+            case 14: due(at + "mend()", x.mend(), model.mend()); break;
+            case 15: due(at + "wins" + args, x.wins(c), model.wins(c)); break;
+            case 16: due(at + "odds" + args, x.odds(a, c, b % 3), model.odds(a, c, b % 3)); break;
             case 17: boolean could = random.nextBoolean();
-                Check.due(at + "see" + args, x.see(a, c, could), model.see(a, c, could)); break;
-            case 18: if (random.nextInt(4) == 0) Check.due(at + "forget()", x.forget(), model.forget()); break;
+                due(at + "see" + args, x.see(a, c, could), model.see(a, c, could)); break;
+            case 18: if (random.nextInt(4) == 0) due(at + "forget()", x.forget(), model.forget()); break;
             case 19: int times = any(1, 40);
                 int seed = any(0, Integer.MAX_VALUE - 1);
-                Check.due(at + "paintings", x.paintings(times, seed, c), model.paintings(times, seed, c)); break;
-            case 20: Check.due(at + "image()", x.image(), model.image()); break;
-            case 21: Check.due(at + "restore()", x.restore(), model.restore()); break;
-            case 22: int what = any(0, 9); Check.due(at + "count " + what, x.count(what), model.count(what)); break;
-            default: if (most < 10 || random.nextInt(6) == 0) Check.due(at + "digest()", x.digest(), model.digest());
+                due(at + "paintings", x.paintings(times, seed, c), model.paintings(times, seed, c)); break;
+            case 20: due(at + "image()", x.image(), model.image()); break;
+            case 21: due(at + "restore()", x.restore(), model.restore()); break;
+            case 22: int what = any(0, 9); due(at + "count " + what, x.count(what), model.count(what)); break;
+            default: if (most < 10 || random.nextInt(6) == 0) due(at + "digest()", x.digest(), model.digest());
         }
     }
 }
