@@ -17,11 +17,19 @@ public final class SweepTest {
     private SweepTest(String text, int stage) {
         read(text);
         if (stage > 0) {
+            askAhead();
             change();
         }
         if (stage > 1) {
+            askAhead();
             due("restore()", x.restore(), model.restore());
         }
+    }
+
+    /** What was counted ahead of a change has to be counted again behind it. */
+    private void askAhead() {
+        due("ways(0)", x.ways(0), model.ways(0));
+        due("ways(2)", x.ways(2), model.ways(2));
     }
 
     public static void main(String[] args) {
